@@ -86,11 +86,7 @@ public final class FindOrder {
             return site.owners(type);
         }
         int code = site.name[type];
-        if (what == 1) {
-            return Names.length(code);
-        }
-        int letter = Names.letter(code, what - 2);
-        return letter < 0 ? NONE : letter;
+        return what == 1 ? Names.length(code) : Names.letter(code, what - 2);
     }
 
     public int drop(int grave) {

@@ -152,6 +152,9 @@ final class GravesTest {
         Check.tell(x, "+1d");
         CHECK.due("7: texts of two", x.count(4), 2);
         CHECK.due("7: a part less", x.count(2), 3);
+        FindOrder one = Check.told("1:");
+        CHECK.due("7: one part", one.count(2), 1);
+        CHECK.due("7: one bare", one.count(5), 1);
         FindOrder far = Check.told("0:a,b;0:c,d;0:e,f;0:f,a;0:d,e;0:b,g;0:g,c");
         CHECK.due("7: parts one by one", far.count(2), 1);
     }

@@ -35,6 +35,9 @@ final class OrdersTest {
         CHECK.due("9: far", x.gapless(Integer.MAX_VALUE), FindOrder.NONE);
         FindOrder none = Check.told("0:a,b;0:b,c;0:c,a");
         CHECK.due("9: none at all", none.gapless(0), FindOrder.NONE);
+        CHECK.due("9: grave 0 never first", Check.told("0:a,b;0:a;0:b").gapless(0), 213);
+        FindOrder star = Check.told("0:a,b,c;0:a;0:b;0:c");
+        CHECK.due("9: none, but for grave 0", star.gapless(0), FindOrder.NONE);
         FindOrder free = Check.told("0:;0:;0:;0:;0:;0:;0:");
         CHECK.due("9: first of all", free.gapless(0), 1234567);
         CHECK.due("9: one between", free.gapless(719), 1765432);
@@ -76,6 +79,7 @@ final class OrdersTest {
         CHECK.due("11: both the same, bad what", x.ends(2, 2, 3), FindOrder.NOT);
         CHECK.due("11: what 3", x.ends(0, 1, 3), FindOrder.BAD);
         CHECK.due("11: what -1", x.ends(0, 1, -1), FindOrder.BAD);
+        CHECK.due("11: both the same of two", Check.told("0:;0:").ends(1, 1, 0), FindOrder.NOT);
         FindOrder one = Check.told("0:a");
         CHECK.due("11: one grave", one.ends(0, 0, 0), 1);
         CHECK.due("11: one grave's gaps", one.ends(0, 0, 1), 0);

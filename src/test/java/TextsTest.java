@@ -41,9 +41,15 @@ final class TextsTest {
         CHECK.due("28: set 2", x.of(2, 1), 4);
         CHECK.due("28: a type comes by -", x.count(1), 4);
         CHECK.due("28: its letter", x.type(3, 2), 'z');
+        CHECK.due("28: orders before", x.orders(0), 4);
+        CHECK.due("28: knots before", x.knots(0), 5);
+        CHECK.due("28: paper before", x.spell(), "12:ab,c;7:c;999:dddddd".length());
         CHECK.due("28: by + too", Check.tell(x, "+0nn"), 1);
         CHECK.due("28: set with it", x.of(0, 1), 19);
-        CHECK.due("28: orders are made again", x.orders(0), 4);
+        Check.tell(x, "+2c");
+        CHECK.due("28: orders are made again", x.orders(0), 6);
+        CHECK.due("28: knots are made again", x.knots(0), 4);
+        CHECK.due("28: paper is made again", x.spell(), "12:ab,c,nn;7:c;999:c,dddddd".length());
     }
 
     private static void flaws() {
@@ -71,6 +77,7 @@ final class TextsTest {
         FindOrder x = Check.told("1:a;2:b");
         CHECK.due("28: no such grave", Check.tell(x, "+2a"), -300);
         CHECK.due("28: no such grave, second", Check.tell(x, "+1a;-9a;+8b"), -304);
+        CHECK.due("28: the first of two", Check.tell(x, "+9a;+9b;1:a"), -300);
         CHECK.due("28: a grave that came ahead", Check.tell(x, "3:;+2a"), 2);
         CHECK.due("28: twice in it", Check.tell(x, "3:;44:x,y,x;5:"), -303);
         CHECK.due("28: twice in two", Check.tell(x, "3:x,y;4:y,x"), 2);
@@ -118,6 +125,8 @@ final class TextsTest {
         CHECK.due("30: its age", x.paper(x.spell() - 3), '1');
         CHECK.due("29: nobody", new FindOrder().spell(), 0);
         CHECK.due("30: nobody", new FindOrder().paper(0), FindOrder.NONE);
+        FindOrder ages = Check.told("9:;10:;99:;100:");
+        CHECK.due("30: figures of ages", Check.paper(ages).equals("9:;10:;99:;100:") ? 1 : 0, 1);
         FindOrder most = new FindOrder();
         Check.tell(most, "0:aaaaaa,bbbbbb,cccccc,dddddd,eeeeee,ffffff,gggggg,hhhhhh");
         most.drop(0);

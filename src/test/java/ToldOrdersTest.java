@@ -72,6 +72,8 @@ final class ToldOrdersTest {
         FindOrder bare = Check.told("0:;0:;0:a");
         CHECK.due("20: none", bare.kin(0), 0);
         CHECK.due("20: first of all", bare.kin(1), 123);
+        CHECK.due("20: begins with 0", Check.told("0:a;0:;0:a;0:").kin(1), 1324);
+        CHECK.due("20: lesser behind greater", Check.told("0:a,b,c;0:a;0:b;0:a,b,c").kin(1), 2143);
         CHECK.due("20: nobody", new FindOrder().kin(1), 0);
     }
 

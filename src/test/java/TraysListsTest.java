@@ -28,9 +28,10 @@ final class TraysListsTest {
         CHECK.due("32: two names", x.lay(3, 0), 2);
         CHECK.due("32: three names", x.lay(3, 1), 3);
         CHECK.due("32: again", x.lay(3, 1), 3);
+        CHECK.due("32: the first name again", x.lay(3, 0), 3);
         CHECK.due("32: nothing more", x.lay(3, 2), 3);
-        CHECK.due("33: a", x.laid(3, 0), 1);
-        CHECK.due("33: b", x.laid(3, 1), 3);
+        CHECK.due("33: a", x.laid(3, 0), 2);
+        CHECK.due("33: b", x.laid(3, 1), 4);
         CHECK.due("33: c", x.laid(3, 2), 2);
         CHECK.due("33: no type 3", x.laid(3, 3), FindOrder.NONE);
         CHECK.due("33: no type -1", x.laid(3, -1), FindOrder.NONE);
