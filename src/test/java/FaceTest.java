@@ -102,9 +102,19 @@ final class FaceTest {
             }
             CHECK.due("fields of " + type, fields <= MOST_FIELDS ? 1 : 0, 1);
             for (Method method : type.getDeclaredMethods()) {
+                CHECK.due("its own name: " + method, isOfFace(method.getName()) ? 1 : 0, 0);
                 CHECK.due("parameters: " + method, method.getParameterCount() <= MOST_PARAMETERS ? 1 : 0, 1);
             }
         }
+    }
+
+    private static boolean isOfFace(String name) {
+        for (String method : FACE) {
+            if (method.matches("\\w+ " + name + "\\(.*")) {
+                return true;
+            }
+        }
+        return false;
     }
 
     private static void source(String text) {

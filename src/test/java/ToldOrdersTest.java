@@ -135,6 +135,7 @@ final class ToldOrdersTest {
         CHECK.due("25: third", x.rank(4132), 2);
         CHECK.due("25: last", x.rank(4231), 3);
         CHECK.due("25: behind all", x.rank(4321), 4);
+        CHECK.due("25: grave 0 never first", Check.told("0:a,b;0:a;0:b").rank(312), 1);
         CHECK.due("25: none gapless", Check.told("0:a,b;0:b,c;0:c,a").rank(321), 0);
     }
 }

@@ -97,7 +97,9 @@ final class TraysListsTest {
         CHECK.due("36: lists are apart", x.get(1, 29), FindOrder.NO_ITEM);
         CHECK.due("34: refused", x.list(0, 31), FindOrder.BAD);
         CHECK.due("36: stays", x.get(0, 29), Integer.MIN_VALUE);
+        x.put(0, 0, 7);
         CHECK.due("34: again", x.list(0, 30), 1);
+        CHECK.due("36: the first is zero again", x.get(0, 0), 0);
         CHECK.due("36: zero again", x.get(0, 29), 0);
         CHECK.due("34: n 0", x.list(2, 0), 1);
         CHECK.due("35: nothing in it", x.put(2, 0, 1), OUTSIDE);
