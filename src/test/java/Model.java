@@ -447,7 +447,22 @@ final class Model {
     }
 
     long told() {
-        return smoothOrders().isEmpty() ? Long.MIN_VALUE : smoothOrders().size();
+        if (smoothOrders().isEmpty()) {
+            return Long.MIN_VALUE;
+        }
+        List<Integer> knots = knotSets();
+        List<Integer> clusters = clusterSets();
+        long product = 1;
+        for (int knot : knots) {
+            int sort = sortOf(knot, knots, clusters);
+            int children = childrenOf(knot, knots).size();
+            product *= sort == 1 ? waysInARow(children) : sort == 2 ? 2 : 1;
+        }
+        return product;
+    }
+
+    private static long waysInARow(int many) {
+        return many <= 1 ? 1 : many * waysInARow(many - 1);
     }
 
     int spoils(int what) {
@@ -781,7 +796,7 @@ final class Model {
         }
         for (int i = 0; i < items.length; i++) {
             boolean right = what == 0 ? orderOf(items[i]) != null
-                : what == 1 ? gaps(items[i]) == 0 : gapless(i) == items[i];
+                : what == 1 ? gaps(items[i]) == 0 : i < smoothOrders().size() && gapless(i) == items[i];
             if (!right) {
                 return i;
             }

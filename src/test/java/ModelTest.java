@@ -5,7 +5,8 @@ final class ModelTest {
     private static final Check CHECK = new Check("ModelTest");
     private static final int RUNS = 300;
     private static final int CALLS = 512;
-    private static final String[] NAMES = {"a", "b", "c", "ab", "abc", "zzzzzz", "pot", "pin", "bead", "ring", "b", "a"};
+    private static final String[] NAMES = {"a", "b", "c", "ab", "abc", "zzzzzz", "pot", "pin", "bead", "ring", "b",
+        "a"};
     private static final String BYTES = "0129:,;+-abz";
 
     private final Random random;

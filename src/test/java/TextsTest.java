@@ -70,7 +70,8 @@ final class TextsTest {
         for (int i = 0; i < 14; i++) {
             full.append("abcdef,");
         }
-        CHECK.due("28: a full tape that ends too early", Check.tell(x, full.substring(0, 85) + ";1:aaa,bbb,ccc,"), -200);
+        String early = full.substring(0, 85) + ";1:aaa,bbb,ccc,";
+        CHECK.due("28: a full tape that ends too early", Check.tell(x, early), -200);
     }
 
     private static void stuck() {
