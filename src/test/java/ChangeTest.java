@@ -36,6 +36,11 @@ final class ChangeTest {
             }
         }
         refusedByState();
+        String[] texts = {"0:", "5:a,b;5:b;105:", "1:a,b;2:b,c;3:c,a", "9:a;8:a;7:b;7:b,c;6:c", GraveEdgesTest.FULL,
+            "1:a;2:b;3:c;4:d;5:e;6:f;7:f,e,d,c,b,a", "3:c;3:;2:a;1:a,b;9:b;9:c;9:a"};
+        for (String text : texts) {
+            madeAnotherWay(text);
+        }
         CHECK.end();
     }
 
@@ -220,6 +225,44 @@ final class ChangeTest {
         fourth.spell();
         told.call.on(fourth);
         CHECK.due("all behind " + told.name + " of " + name, Picture.of(third).equals(Picture.of(fourth)) ? 1 : 0, 1);
+    }
+
+    // ---- an object made by a text, and one made by calls, are asked the same ----
+
+    private static void madeAnotherWay(String text) {
+        FindOrder one = Check.told(text);
+        FindOrder other = madeByCalls(one);
+        for (Told told : asked(6)) {
+            CHECK.due(told.name + " of one made by calls, " + text, told.call.on(other), told.call.on(one));
+        }
+        one.list(0, 30);
+        other.list(0, 30);
+        CHECK.due("37: fill of one made by calls, " + text, other.fill(0, 0), one.fill(0, 0));
+        for (int what = 0; what <= 2; what++) {
+            CHECK.due("38: judge of one made by calls, " + text, other.judge(0, what), one.judge(0, what));
+        }
+        String due = Picture.of(Check.told(text));
+        String found = Picture.of(madeByCalls(Check.told(text)));
+        CHECK.due("all of one made by calls, " + text, found.equals(due) ? 1 : 0, 1);
+    }
+
+    /** All TYPES come by one GRAVE, which is dropped then. */
+    private static FindOrder madeByCalls(FindOrder like) {
+        StringBuilder names = new StringBuilder("0:");
+        for (int t = 0; t < like.count(1); t++) {
+            names.append(t == 0 ? "" : ",").append((char) like.type(t, 2));
+        }
+        FindOrder x = Check.told(names.toString());
+        x.drop(0);
+        for (int g = 0; g < like.count(0); g++) {
+            x.grave(like.of(g, 0));
+            for (int t = 0; t < like.count(1); t++) {
+                if ((like.of(g, 1) >> t & 1) != 0) {
+                    x.has(g, t, 1);
+                }
+            }
+        }
+        return x;
     }
 
     // ---- what a state refuses ----

@@ -36,6 +36,10 @@ final class Check {
         if (tell(x, text) < 0) {
             throw new IllegalStateException(text);
         }
+        // nothing is done by a fault, so nothing of this may show in any answer
+        if (tell(x, "+0qq;+2qq;-1a;7:rr;!") != -119) {
+            throw new IllegalStateException(text);
+        }
         return x;
     }
 

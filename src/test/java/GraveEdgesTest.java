@@ -200,6 +200,8 @@ final class GraveEdgesTest {
         for (int what : wrong) {
             CHECK.due("5: what " + what, x.type(1, what), NONE);
         }
+        FindOrder few = Check.told("0:;0:;0:;0:;0:;0:;0:a");
+        CHECK.due("5: the last GRAVE of more than there are TYPES", few.type(0, 0), 64);
         FindOrder full = Check.told(FULL);
         CHECK.due("5: the last TYPE of all", full.type(7, 2), 'h');
         CHECK.due("5: there is no TYPE 8", full.type(8, 0), NONE);

@@ -271,6 +271,13 @@ final class OrderEdgesTest {
         FindOrder fixed = Check.told("0:a;0:a,b;0:b");
         CHECK.due("14: three CHILDREN, two of them a CLUSTER: FIXED", fixed.knot(3, 1), 2);
         CHECK.due("14: three CHILDREN of it", fixed.knot(3, 3), 3);
+        String[] middles = {"0:a,b;0:a;0:b", "0:a;0:a,b;0:b", "0:a;0:b;0:a,b"};
+        for (int g = 0; g < 3; g++) {
+            FindOrder x = Check.told(middles[g]);
+            CHECK.due("14: three CHILDREN, GRAVE " + g + " in the middle: FIXED", x.knot(3, 1), 2);
+            CHECK.due("13: three CHILDREN, GRAVE " + g + " in the middle: FIXED", x.knots(2), 1);
+            CHECK.due("15: three CHILDREN, GRAVE " + g + " in the middle: FIXED", x.told(), 2);
+        }
         FindOrder seven = Check.told(ROW);
         CHECK.due("14: seven CHILDREN: FIXED", seven.knot(7, 1), 2);
         CHECK.due("14: seven CHILDREN", seven.knot(7, 3), 7);

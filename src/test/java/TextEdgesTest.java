@@ -215,6 +215,7 @@ final class TextEdgesTest {
         told("seven GRAVES", "1:;2:;3:;4:;5:;6:;7:", 7);
         told("an eighth GRAVE", "1:;2:;3:;4:;5:;6:;7:;8:", -321);
         told("an eighth with a NAME", "1:;2:;3:;4:;5:;6:;7:;8:a", -321);
+        told("an eighth with two NAMES", "1:;2:;3:;4:;5:;6:;7:;8:a,b", -321);
         told("an eighth, and one behind it", "1:;2:;3:;4:;5:;6:;7:;8:;+0a", -321);
         FindOrder x = Check.told("1:;2:;3:;4:;5:;6:;7:");
         CHECK.due("28: no room for one more", Check.tell(x, "8:"), -300);
@@ -227,6 +228,7 @@ final class TextEdgesTest {
     private static void noRoomForAName() {
         told("eight NAMES of one", "1:a,b,c,d,e,f,g,h", 1);
         told("nine NAMES of one", "1:a,b,c,d,e,f,g,h,i", -300);
+        told("a ninth, and old ones behind it", "1:a,b,c,d,e,f,g,h;2:i,a,b", -318);
         told("a ninth of another", "1:a,b,c,d,e,f,g,h;2:i", -318);
         told("a ninth by +", "1:a,b,c,d,e,f,g,h;+0i", -318);
         told("a ninth by -", "1:a,b,c,d,e,f,g,h;-0i", -318);
@@ -249,6 +251,8 @@ final class TextEdgesTest {
         told("twice by +", "1:;+0a;+0a", 3);
         told("twice by -", "1:;-0a;-0a", 3);
         told("twice in the second", "1:a;2:b,b", -304);
+        told("twice, and another one behind", "1:a,a,b", -300);
+        told("twice, and others between and behind", "1:a,b,a,c", -300);
         FindOrder x = Check.told("1:a");
         CHECK.due("28: an old NAME twice", Check.tell(x, "2:a,a"), -300);
         CHECK.due("28: no GRAVE came by it", x.count(0), 1);
