@@ -29,6 +29,9 @@ final class FaceTest {
         "\\bassert\\b", "->", "::", "\\bimport\\b", "\\bpackage\\b", "\\bprotected\\b", "\\bMath\\.random\\b",
         "Exact\\b", "\\bSystem\\.(?!arraycopy)", "\\bThread\\b", "\\bvolatile\\b", "\\bObject\\b", "\\bstatic \\{",
         "\\bString\\b", "java\\."};
+    /** What the class takes from the library, of all that LANGUAGE.md lists. */
+    private static final Set<String> LIBRARY = Set.of("Integer.bitCount", "Integer.numberOfTrailingZeros", "Math.max",
+        "Math.min", "System.arraycopy", "Long.MIN_VALUE");
     private static final int MOST_LINES = 60;
     private static final int MOST_PARAMETERS = 7;
     private static final int MOST_CLASSES = 12;
@@ -122,6 +125,15 @@ final class FaceTest {
         for (String banned : BANNED) {
             Matcher matcher = Pattern.compile(banned).matcher(code);
             CHECK.due("nowhere: " + banned, matcher.find() ? 1 : 0, 0);
+        }
+        Set<String> own = new TreeSet<>();
+        for (Class<?> type : FindOrder.class.getDeclaredClasses()) {
+            own.add(type.getSimpleName());
+        }
+        Matcher used = Pattern.compile("\\b([A-Z]\\w*[a-z]\\w*)\\.(\\w+)").matcher(code);
+        while (used.find()) {
+            boolean listed = own.contains(used.group(1)) || LIBRARY.contains(used.group());
+            CHECK.due("in the library's list: " + used.group(), listed ? 1 : 0, 1);
         }
         CHECK.due("signs 1 to 127", text.chars().allMatch(sign -> sign > 0 && sign < 128) ? 1 : 0, 1);
         String[] lines = code.split("\n");
